@@ -294,8 +294,18 @@ public final class ShadowHerds {
         if (!read) {
             return refuse(NO_TEXT);
         }
-        int why = runText(reader.text);
-        return why == 0 ? grant(toldHere) : refuse(why);
+        int former = plain.flags;
+        lastHour = NONE;
+        toldHere = 0;
+        for (int clause = 0; clause < reader.text.clauses; clause++) {
+            int why = runClause(reader.text, clause);
+            if (why != 0) {
+                plain.flags = former;
+                stuckClause = clause;
+                return refuse(why);
+            }
+        }
+        return grant(toldHere);
     }
 
     public int fault() {
@@ -558,28 +568,17 @@ public final class ShadowHerds {
 
     // ---- how drives run ----
 
-    /** 0, or why the text could not be run; then no flag of it stands. */
-    private int runText(Script text) {
-        int former = plain.flags;
-        lastHour = NONE;
-        toldHere = 0;
-        for (int clause = 0; clause < text.clauses; clause++) {
-            int why = runClause(text, clause);
-            if (why != 0) {
-                plain.flags = former;
-                stuckClause = clause;
-                return why;
-            }
-        }
-        return 0;
-    }
-
+    /** 0, or why the clause could not be run. */
     private int runClause(Script text, int clause) {
         int times = text.head(clause, Script.TIMES);
         int test = text.head(clause, Script.TEST);
         int run = 0;
         for (int time = 0; time < times; time++) {
-            tellWords(text, run);
+            tellWords(run);
+            if (text.asksCorners) {
+                sky.look();
+                sky.tellCorners(reckoner.corners);
+            }
             if (test != NONE && reckoner.valueOf(text, test) != 1) {
                 continue;
             }
@@ -617,7 +616,7 @@ public final class ShadowHerds {
         return why;
     }
 
-    private void tellWords(Script text, int run) {
+    private void tellWords(int run) {
         int[] words = reckoner.words;
         words[Reader.DAY] = plain.terms[DAY_TERM];
         words[Reader.CLOUDS] = plain.clouds;
@@ -625,10 +624,6 @@ public final class ShadowHerds {
         words[Reader.LAST] = lastHour;
         words[Reader.DONE] = toldHere;
         words[Reader.RUN] = run;
-        if (text.asksCorners) {
-            sky.look();
-            sky.tellCorners(reckoner.corners);
-        }
     }
 
     // ---- classes inside ----
@@ -941,6 +936,13 @@ public final class ShadowHerds {
             }
         }
 
+        void addClause() {
+            for (int what = 0; what < HEAD; what++) {
+                setHead(clauses, what, NONE);
+            }
+            clauses++;
+        }
+
         void emit(int order, int argument) {
             if (size + 2 <= code.length) {
                 code[size] = order;
@@ -1026,29 +1028,25 @@ public final class ShadowHerds {
             next = 0;
             parts = 0;
             text.clear();
-            boolean read = readClauses();
-            fault = read ? NONE : places[next];
-            return read;
-        }
-
-        private boolean readClauses() {
-            for (int clause = 0; clause < MOST_CLAUSES; clause++) {
-                for (int what = 0; what < Script.HEAD; what++) {
-                    text.setHead(clause, what, NONE);
+            boolean more = true;
+            boolean read = true;
+            for (int clause = 0; clause < MOST_CLAUSES && read && more; clause++) {
+                text.addClause();
+                read = lawful ? readLawHead(clause) : readDriveHead(clause);
+                if (read && take(IF)) {
+                    text.setHead(clause, Script.TEST, text.size);
+                    read = readTest(0);
+                    text.emit(Reckoner.STOP, 0);
                 }
-                boolean read = lawful ? readLawClause(clause) : readDriveClause(clause);
-                if (!read) {
-                    return false;
-                }
-                text.clauses++;
-                if (token() == TAPE_END) {
-                    return true;
-                }
-                if (!take(SIGN + ';')) {
-                    return false;
+                if (read && token() == TAPE_END) {
+                    more = false;
+                } else {
+                    read = read && take(SIGN + ';');
                 }
             }
-            return false;
+            read = read && !more;
+            fault = read ? NONE : places[next];
+            return read;
         }
 
         // -- tokens --
@@ -1139,7 +1137,7 @@ public final class ShadowHerds {
         }
 
         private int token() {
-            return next < tokenCount ? tokens[next] : TAPE_END;
+            return next < tokenCount && next < tokens.length ? tokens[next] : TAPE_END;
         }
 
         private boolean take(int token) {
@@ -1152,27 +1150,24 @@ public final class ShadowHerds {
 
         /** The tape's end is never passed, so a fault always has its place. */
         private void pass() {
-            if (next + 1 < tokenCount) {
+            if (next + 1 < tokenCount && next + 1 < places.length) {
                 next++;
             }
         }
 
         // -- clauses --
 
-        private boolean readLawClause(int clause) {
+        private boolean readLawHead(int clause) {
             int kind = token();
             if (kind < HEATS || kind > BARS) {
                 return false;
             }
             pass();
             text.setHead(clause, Script.KIND, kind);
-            if (kind != BARS && !readSumOf(clause, Script.SUM)) {
-                return false;
-            }
-            return readIf(clause);
+            return kind == BARS || readSumOf(clause, Script.SUM);
         }
 
-        private boolean readDriveClause(int clause) {
+        private boolean readDriveHead(int clause) {
             text.setHead(clause, Script.TIMES, 1);
             if (!take(FLAG) || !readSumOf(clause, Script.SUM)) {
                 return false;
@@ -1186,10 +1181,7 @@ public final class ShadowHerds {
             if (take(EACH) && !readSumOf(clause, Script.EACH)) {
                 return false;
             }
-            if (take(TIMES) && !readTimes(clause)) {
-                return false;
-            }
-            return readIf(clause);
+            return !take(TIMES) || readTimes(clause);
         }
 
         private boolean readTimes(int clause) {
@@ -1202,16 +1194,6 @@ public final class ShadowHerds {
             return true;
         }
 
-        private boolean readIf(int clause) {
-            if (!take(IF)) {
-                return true;
-            }
-            text.setHead(clause, Script.TEST, text.size);
-            boolean read = readTest(0);
-            text.emit(Reckoner.STOP, 0);
-            return read;
-        }
-
         private boolean readSumOf(int clause, int what) {
             text.setHead(clause, what, text.size);
             boolean read = readSum(0);
@@ -1219,26 +1201,26 @@ public final class ShadowHerds {
             return read;
         }
 
-        // -- tests; depth: how many brackets stand open --
+        // -- tests and sums; depth: how many brackets stand open --
 
         private boolean readTest(int depth) {
-            boolean read = readBoth(depth);
-            for (int i = 0; i < MOST_BYTES && read && take(OR); i++) {
-                int jump = text.size;
-                text.emit(Reckoner.JUMP_IF_SO, 0);
-                read = readBoth(depth);
-                text.landHere(jump);
-            }
-            return read;
-        }
-
-        private boolean readBoth(int depth) {
+            int orJump = NONE;
             boolean read = readPlain(depth);
-            for (int i = 0; i < MOST_BYTES && read && take(AND); i++) {
+            for (int i = 0; i < MOST_BYTES && read; i++) {
                 int jump = text.size;
-                text.emit(Reckoner.JUMP_IF_NOT, 0);
-                read = readPlain(depth);
-                text.landHere(jump);
+                if (take(AND)) {
+                    text.emit(Reckoner.JUMP_IF_NOT, 0);
+                    read = readPlain(depth);
+                    text.landHere(jump);
+                } else {
+                    text.landHere(orJump);
+                    if (!take(OR)) {
+                        return true;
+                    }
+                    orJump = jump;
+                    text.emit(Reckoner.JUMP_IF_SO, 0);
+                    read = readPlain(depth);
+                }
             }
             return read;
         }
@@ -1248,32 +1230,26 @@ public final class ShadowHerds {
             for (int i = 0; i < MOST_BYTES && take(NOT); i++) {
                 turned = !turned;
             }
-            boolean read = token() == SIGN + '(' ? readBracket(depth) : readRelation(depth);
+            boolean read;
+            if (token() == SIGN + '(') {
+                if (depth >= MOST_BRACKETS) {
+                    return false;
+                }
+                pass();
+                read = readTest(depth + 1) && take(SIGN + ')');
+            } else {
+                read = readSum(depth);
+                int relation = relationOf(token());
+                if (!read || relation == NONE) {
+                    return false;
+                }
+                pass();
+                read = readSum(depth);
+                text.emit(relation, 0);
+            }
             if (turned) {
                 text.emit(Reckoner.TURN, 0);
             }
-            return read;
-        }
-
-        private boolean readBracket(int depth) {
-            if (depth >= MOST_BRACKETS) {
-                return false;
-            }
-            pass();
-            return readTest(depth + 1) && take(SIGN + ')');
-        }
-
-        private boolean readRelation(int depth) {
-            if (!readSum(depth)) {
-                return false;
-            }
-            int order = relationOf(token());
-            if (order == NONE) {
-                return false;
-            }
-            pass();
-            boolean read = readSum(depth);
-            text.emit(order, 0);
             return read;
         }
 
@@ -1286,38 +1262,34 @@ public final class ShadowHerds {
             }
         }
 
-        // -- sums --
-
         private boolean readSum(int depth) {
-            boolean read = readTerm(depth);
-            for (int i = 0; i < MOST_BYTES && read; i++) {
-                int sign = token();
-                if (sign != SIGN + '+' && sign != SIGN + '-') {
-                    return true;
-                }
-                pass();
-                read = readTerm(depth);
-                text.emit(sign == SIGN + '+' ? Reckoner.ADD : Reckoner.TAKE, 0);
-            }
-            return read;
-        }
-
-        private boolean readTerm(int depth) {
+            int waiting = NONE;
             boolean read = readPart(depth);
             for (int i = 0; i < MOST_BYTES && read; i++) {
-                int order = factorOf(token());
-                if (order == NONE) {
-                    return true;
+                int order = orderOf(token());
+                if (order == Reckoner.TIMES || order == Reckoner.SHARE || order == Reckoner.REST) {
+                    pass();
+                    read = readPart(depth);
+                    text.emit(order, 0);
+                } else {
+                    if (waiting != NONE) {
+                        text.emit(waiting, 0);
+                    }
+                    if (order == NONE) {
+                        return true;
+                    }
+                    waiting = order;
+                    pass();
+                    read = readPart(depth);
                 }
-                pass();
-                read = readPart(depth);
-                text.emit(order, 0);
             }
             return read;
         }
 
-        private static int factorOf(int token) {
+        private static int orderOf(int token) {
             switch (token) {
+                case SIGN + '+': return Reckoner.ADD;
+                case SIGN + '-': return Reckoner.TAKE;
                 case SIGN + '*': return Reckoner.TIMES;
                 case SIGN + '/': return Reckoner.SHARE;
                 case SIGN + '%': return Reckoner.REST;
@@ -1448,20 +1420,18 @@ public final class ShadowHerds {
         }
 
         private static int joined(int order, long one, long other) {
+            long value;
             switch (order) {
-                case ADD: return bounded(one + other);
-                case TAKE: return bounded(one - other);
-                case TIMES: return bounded(one * other);
-                case SHARE: return other == 0 ? BROKEN : bounded(one / other);
-                case REST: return other == 0 ? BROKEN : bounded(one % other);
-                case LESS: return one < other ? 1 : 0;
-                case MORE: return one > other ? 1 : 0;
-                case SAME: return one == other ? 1 : 0;
-                default: return BROKEN;
+                case ADD: value = one + other; break;
+                case TAKE: value = one - other; break;
+                case TIMES: value = one * other; break;
+                case SHARE: value = other == 0 ? BROKEN : one / other; break;
+                case REST: value = other == 0 ? BROKEN : one % other; break;
+                case LESS: value = one < other ? 1 : 0; break;
+                case MORE: value = one > other ? 1 : 0; break;
+                case SAME: value = one == other ? 1 : 0; break;
+                default: value = BROKEN; break;
             }
-        }
-
-        private static int bounded(long value) {
             return value < -MOST || value > MOST ? BROKEN : (int) value;
         }
     }
@@ -1500,14 +1470,13 @@ public final class ShadowHerds {
 
         /** Why no flag would help a cloud there, or 0. */
         int hindrance(int cloud, int hour, int spot) {
-            if (isBarred(cloud, hour, spot)) {
+            tellWords(Sky.xOf(spot), Sky.yOf(spot), hour, NONE);
+            reckoner.words[Reader.CLOUD] = cloud;
+            reckoner.words[Reader.LAYER] = plain.cloudFact(cloud, Plain.LAYER);
+            if (toldBy(Reader.BARS, 0) == 1) {
                 return BARRED;
             }
             return isOverWater(spot) ? OVER_WATER : 0;
-        }
-
-        boolean helps(int cloud, int hour, int spot) {
-            return !isOverWater(spot) && !isBarred(cloud, hour, spot);
         }
 
         private boolean isOverWater(int spot) {
@@ -1517,13 +1486,6 @@ public final class ShadowHerds {
                 return false;
             }
             return plain.fieldFact(SIDE * y + x, WATER) == 1;
-        }
-
-        private boolean isBarred(int cloud, int hour, int spot) {
-            tellWords(Sky.xOf(spot), Sky.yOf(spot), hour, NONE);
-            reckoner.words[Reader.CLOUD] = cloud;
-            reckoner.words[Reader.LAYER] = plain.cloudFact(cloud, Plain.LAYER);
-            return toldBy(Reader.BARS, 0) == 1;
         }
 
         private void askField(int field, int hour, int shade) {
@@ -1550,23 +1512,17 @@ public final class ShadowHerds {
             }
             for (int clause = law.clauses - 1; clause >= 0; clause--) {
                 if (law.head(clause, Script.KIND) == kind) {
-                    int told = toldByClause(law, clause);
-                    if (told != Reckoner.BROKEN) {
-                        return Math.max(0, Math.min(MOST_TOLD, told));
+                    int test = law.head(clause, Script.TEST);
+                    int sum = law.head(clause, Script.SUM);
+                    if (test == NONE || reckoner.valueOf(law, test) == 1) {
+                        int told = sum == NONE ? 1 : reckoner.valueOf(law, sum);
+                        if (told != Reckoner.BROKEN) {
+                            return Math.max(0, Math.min(MOST_TOLD, told));
+                        }
                     }
                 }
             }
             return without;
-        }
-
-        /** BROKEN, if it does not hold. */
-        private int toldByClause(Script law, int clause) {
-            int test = law.head(clause, Script.TEST);
-            if (test != NONE && reckoner.valueOf(law, test) != 1) {
-                return Reckoner.BROKEN;
-            }
-            int sum = law.head(clause, Script.SUM);
-            return sum == NONE ? 1 : reckoner.valueOf(law, sum);
         }
     }
 
@@ -1595,7 +1551,12 @@ public final class ShadowHerds {
         }
 
         static int movedBy(int spot, int x, int y) {
-            return spot == GONE ? GONE : spotAt(xOf(spot) + x, yOf(spot) + y);
+            int column = spot % WIDTH + x;
+            int line = spot / WIDTH + y;
+            if (spot == GONE || column < 0 || column >= WIDTH || line < 0 || line >= WIDTH) {
+                return GONE;
+            }
+            return WIDTH * line + column;
         }
 
         static boolean covers(int spot, int wide, int tall, int field) {
@@ -1623,7 +1584,18 @@ public final class ShadowHerds {
         void look() {
             hearFlags();
             for (int cloud = 0; cloud < plain.clouds; cloud++) {
-                follow(cloud);
+                place(cloud, 0, plain.startOf(cloud));
+                for (int hour = 0; hour < FLAG_HOURS; hour++) {
+                    goOn(cloud, hour, false);
+                }
+            }
+        }
+
+        /** One cloud goes as told. */
+        void follow(int cloud) {
+            place(cloud, 0, plain.startOf(cloud));
+            for (int hour = 0; hour < FLAG_HOURS; hour++) {
+                goOn(cloud, hour, false);
             }
         }
 
@@ -1650,23 +1622,18 @@ public final class ShadowHerds {
             return told[cloud * FLAG_HOURS + hour];
         }
 
-        void follow(int cloud) {
-            int x = plain.windXOf(cloud);
-            int y = plain.windYOf(cloud);
-            place(cloud, 0, plain.startOf(cloud));
-            for (int hour = 0; hour < FLAG_HOURS; hour++) {
-                goOn(cloud, hour, x, y);
-            }
-        }
-
-        /** The cloud's spot of the next hour, by such a wind. */
-        void goOn(int cloud, int hour, int windX, int windY) {
+        /** The cloud's spot of the next hour, by its wind or by that turned. */
+        void goOn(int cloud, int hour, boolean turned) {
             int spot = spotOf(cloud, hour);
             int flag = flagOf(cloud, hour);
-            if (spot != GONE && flag != NO_FLAG && !climate.helps(cloud, hour, spot)) {
+            if (spot != GONE && flag != NO_FLAG && climate.hindrance(cloud, hour, spot) != 0) {
                 flag = NO_FLAG;
             }
-            place(cloud, hour + 1, movedBy(spot, windX + stepX(flag), windY + stepY(flag)));
+            int x = plain.windXOf(cloud);
+            int y = plain.windYOf(cloud);
+            int goesX = turned ? -y : x;
+            int goesY = turned ? x : y;
+            place(cloud, hour + 1, movedBy(spot, goesX + stepX(flag), goesY + stepY(flag)));
         }
 
         void place(int cloud, int hour, int spot) {
@@ -1820,19 +1787,9 @@ public final class ShadowHerds {
             }
             for (int hour = 0; hour < FLAG_HOURS; hour++) {
                 for (int cloud = 0; cloud < plain.clouds; cloud++) {
-                    drawHour(cloud, hour);
+                    boolean gone = drawnSky.spotOf(cloud, hour) == GONE;
+                    drawnSky.goOn(cloud, hour, !gone && drawOfTen() < plain.terms[VEER_TERM]);
                 }
-            }
-        }
-
-        private void drawHour(int cloud, int hour) {
-            int x = plain.windXOf(cloud);
-            int y = plain.windYOf(cloud);
-            boolean gone = drawnSky.spotOf(cloud, hour) == GONE;
-            if (!gone && drawOfTen() < plain.terms[VEER_TERM]) {
-                drawnSky.goOn(cloud, hour, -y, x);
-            } else {
-                drawnSky.goOn(cloud, hour, x, y);
             }
         }
 
@@ -1896,23 +1853,17 @@ public final class ShadowHerds {
                 marks[slot] = UNREACHED;
             }
             reach(now, spot);
+            int ways = (NO_FLAG + 1) * (men > 1 ? NO_FLAG + 1 : 1);
             for (int hour = now; hour < till; hour++) {
                 for (int from = 0; from < SPOTS; from++) {
-                    if (isReached(hour, from)) {
-                        spreadFrom(hour, from, men, false);
+                    for (int way = isReached(hour, from) ? 0 : ways; way < ways; way++) {
+                        int one = way % (NO_FLAG + 1);
+                        int other = men > 1 ? way / (NO_FLAG + 1) : NO_FLAG;
+                        reach(hour + 1, onward(hour, from, one, other, false));
                         if (veers) {
-                            spreadFrom(hour, from, men, true);
+                            reach(hour + 1, onward(hour, from, one, other, true));
                         }
                     }
-                }
-            }
-        }
-
-        private void spreadFrom(int hour, int spot, int men, boolean turned) {
-            boolean free = markOf(hour, spot) == FREE;
-            for (int one = free && men > 0 ? 0 : NO_FLAG; one <= NO_FLAG; one++) {
-                for (int other = free && men > 1 ? 0 : NO_FLAG; other <= NO_FLAG; other++) {
-                    reach(hour + 1, onward(hour, spot, one, other, turned));
                 }
             }
         }
@@ -1920,7 +1871,7 @@ public final class ShadowHerds {
         private void reach(int hour, int spot) {
             int slot = slotOf(hour, spot);
             if (slot >= 0 && slot < marks.length && marks[slot] == UNREACHED) {
-                marks[slot] = spot != GONE && climate.helps(cloud, hour, spot) ? FREE : STUCK;
+                marks[slot] = spot != GONE && climate.hindrance(cloud, hour, spot) == 0 ? FREE : STUCK;
             }
         }
 
@@ -2389,7 +2340,7 @@ public final class ShadowHerds {
 
         private long bestOf(int hour, int spot, boolean fight) {
             long best = -1;
-            for (int step = 0; step <= NO_FLAG; step++) {
+            for (int step = 0; step <= NO_FLAG && best < CERTAIN; step++) {
                 long chance = fight ? worstBy(hour, spot, step) : chanceBy(hour, spot, step);
                 if (chance > best) {
                     best = chance;
@@ -2407,7 +2358,7 @@ public final class ShadowHerds {
 
         private long worstBy(int hour, int spot, int step) {
             long worst = CERTAIN;
-            for (int other = 0; other <= NO_FLAG; other++) {
+            for (int other = 0; other <= NO_FLAG && worst > 0; other++) {
                 worst = Math.min(worst, chanceOf(hour + 1, paper.onward(hour, spot, step, other, false)));
             }
             return worst;
@@ -2470,31 +2421,22 @@ public final class ShadowHerds {
 
         int rustlings(Sky sky, int i) {
             int found = 0;
-            for (int hour = 0; hour < FLAG_HOURS; hour++) {
-                for (int cloud = 0; cloud < plain.clouds; cloud++) {
-                    if (sky.flagOf(cloud, hour) != NO_FLAG) {
-                        continue;
+            for (int number = 0; number < FLAG_HOURS * 20; number++) {
+                int hour = number / 20;
+                int cloud = number % 20 / 4;
+                if (plain.isCloud(cloud) && sky.flagOf(cloud, hour) == NO_FLAG) {
+                    sky.tell(cloud, hour, number % 4);
+                    sky.follow(cloud);
+                    boolean so = sky.sightsAreSo();
+                    sky.tell(cloud, hour, NO_FLAG);
+                    sky.follow(cloud);
+                    if (so && found == i) {
+                        return number;
                     }
-                    for (int direction = 0; direction < NO_FLAG; direction++) {
-                        if (isRustling(sky, hour, cloud, direction)) {
-                            if (found == i) {
-                                return hour * 20 + cloud * 4 + direction;
-                            }
-                            found++;
-                        }
-                    }
+                    found += so ? 1 : 0;
                 }
             }
             return i == NONE ? found : NONE;
-        }
-
-        private static boolean isRustling(Sky sky, int hour, int cloud, int direction) {
-            sky.tell(cloud, hour, direction);
-            sky.follow(cloud);
-            boolean so = sky.sightsAreSo();
-            sky.tell(cloud, hour, NO_FLAG);
-            sky.follow(cloud);
-            return so;
         }
 
         // -- men --
