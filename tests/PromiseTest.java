@@ -652,6 +652,32 @@ public final class PromiseTest {
         run("flag 0 to 0 at top 0", -6, 20, NONE);
         run("flag 0 to 0 at top x 0", -6, 19, NONE);
         run("flag 0 to 0 at hour", -6, 15, NONE);
+        run("flag 0 to 0 at left 0 + 1", -6, 22, NONE);
+        run("flag 0 to 0 at left + 1", -6, 20, NONE);
+        run("flag 0 to 0 at 0 each", -6, 21, NONE);
+        run("flag 0 to 0 at 0 each;", -6, 21, NONE);
+        run("flag 0 to 0 at 0 each if 1 = 1", -6, 22, NONE);
+        run("flag 0 to 0 at 0 times", -6, 22, NONE);
+        run("flag 0 to 0 at 0 times if 1 = 1", -6, 23, NONE);
+        run("flag 0 to 0 at", -6, 14, NONE);
+        run("flag 0 to 0 at; flag", -6, 14, NONE);
+        run("flag 0 to 0", -6, 11, NONE);
+        run("flag 0 to 0;", -6, 11, NONE);
+        run("flag 0 to", -6, 9, NONE);
+        run("flag 0 to;", -6, 9, NONE);
+        run("flag 0", -6, 6, NONE);
+        run("flag 0;", -6, 6, NONE);
+        run("flag;", -6, 4, NONE);
+        run("flag 0 to 0 at 0 if", -6, 19, NONE);
+        run("flag 0 to 0 at 0 if;", -6, 19, NONE);
+        run("flag 0 to 0 at 0 if 1 = 1 and", -6, 29, NONE);
+        run("flag 0 to 0 at 0 if 1 = 1 or;", -6, 28, NONE);
+        run("flag 0 to 0 at [0 if 1 = 1]", -6, 18, NONE);
+        run("flag [0 to 0 at 0]", -6, 8, NONE);
+        run("flag 0 flag 0 to 0 at 0", -6, 7, NONE);
+        run("flag 0 to 0 at 0 1", -6, 17, NONE);
+        run("flag 0 to 0 at 0 each 1 each 1", -6, 24, NONE);
+        run("flag 0 to 0 at 0 if 1 = 1 if 1 = 1", -6, 26, NONE);
         run("flag 0 at 0 to 0", -6, 7, NONE);
         drivesWords();
         drivesRoom();
@@ -808,6 +834,19 @@ public final class PromiseTest {
         due("over water: no help, but the wind goes on", x.at(0, 3, 0) * 100 + x.at(0, 3, 1), 302);
         x.put(19, 2, 1);
         due("barred ahead of water", x.at(0, 3, 2), 1);
+        ShadowHerds w = new ShadowHerds();
+        int[][] corners = {{0, 0}, {7, 0}, {0, 7}, {7, 7}, {-1, 0}, {0, -1}, {8, 0}, {0, 8}, {8, 8}};
+        for (int f = 0; f < 64; f++) {
+            w.put(f, 2, 1);
+        }
+        for (int i = 0; i < corners.length; i++) {
+            w.image(0);
+            w.cloud(3, 3, 0, corners[i][0], corners[i][1]);
+            due("water under the corner alone", w.at(0, 0, 2), i < 4 ? 2 : 0);
+            w.image(1);
+            w.back(i % 2 == 0 ? 0 : 1);
+            w.back(0);
+        }
         due("hour 7", x.at(0, 7, 2), 1);
         due("hour 11 off the plain", x.at(0, 11, 0) * 10 + x.at(0, 11, 2), 110);
         ShadowHerds y = new ShadowHerds();
@@ -822,6 +861,15 @@ public final class PromiseTest {
         due("wind and flag are one way", y.at(0, 6, 0), 15);
         y.flag(0, 0, 0);
         due("gone by a flag", y.at(0, 1, 1), NOTHING);
+        int[][] edges = {{-8, 3, -1, 0}, {15, 3, 1, 0}, {3, -8, 0, -1}, {3, 15, 0, 1}};
+        for (int[] e : edges) {
+            ShadowHerds z = new ShadowHerds();
+            z.cloud(1, 1, 0, e[0], e[1]);
+            due("x at the edge", z.at(0, 11, 0), e[0]);
+            due("y at the edge", z.at(0, 11, 1), e[1]);
+            z.wind(0, e[2], e[3]);
+            due("beyond the edge", z.at(0, 1, 0), NOTHING);
+        }
         int[][] bad = {{1, 0, 0}, {-1, 0, 0}, {0, -1, 0}, {0, 12, 0}, {0, 0, -1}, {0, 0, 3}, {MOST, 0, 0}, {0, LEAST, 0}};
         for (int[] b : bad) {
             due("at(" + b[0] + ", " + b[1] + ", " + b[2] + ")", x.at(b[0], b[1], b[2]), NOTHING);

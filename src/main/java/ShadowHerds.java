@@ -1045,7 +1045,7 @@ public final class ShadowHerds {
                 }
             }
             read = read && !more;
-            fault = read ? NONE : places[next];
+            fault = read ? NONE : placeOfNext();
             return read;
         }
 
@@ -1137,7 +1137,11 @@ public final class ShadowHerds {
         }
 
         private int token() {
-            return next < tokenCount && next < tokens.length ? tokens[next] : TAPE_END;
+            return next >= 0 && next < tokenCount && next < tokens.length ? tokens[next] : TAPE_END;
+        }
+
+        private int placeOfNext() {
+            return next >= 0 && next < places.length ? places[next] : length;
         }
 
         private boolean take(int token) {
