@@ -839,12 +839,10 @@ public final class PromiseTest {
         for (int f = 0; f < 64; f++) {
             w.put(f, 2, 1);
         }
+        w.image(0);
         for (int i = 0; i < corners.length; i++) {
-            w.image(0);
             w.cloud(3, 3, 0, corners[i][0], corners[i][1]);
             due("water under the corner alone", w.at(0, 0, 2), i < 4 ? 2 : 0);
-            w.image(1);
-            w.back(i % 2 == 0 ? 0 : 1);
             w.back(0);
         }
         due("hour 7", x.at(0, 7, 2), 1);
