@@ -1860,7 +1860,8 @@ public final class ShadowHerds {
             int ways = (NO_FLAG + 1) * (men > 1 ? NO_FLAG + 1 : 1);
             for (int hour = now; hour < till; hour++) {
                 for (int from = 0; from < SPOTS; from++) {
-                    for (int way = isReached(hour, from) ? 0 : ways; way < ways; way++) {
+                    int waysFrom = isReached(hour, from) ? ways : 0;
+                    for (int way = 0; way < waysFrom; way++) {
                         int one = way % (NO_FLAG + 1);
                         int other = men > 1 ? way / (NO_FLAG + 1) : NO_FLAG;
                         reach(hour + 1, onward(hour, from, one, other, false));
