@@ -407,6 +407,17 @@ public final class BoundaryTest {
             is(other.status(), -2);
         });
         test("NONE is -1", x -> is(ShadowHerds.NONE, -1));
+        test("the 512th call is answered like the first", x -> {
+            x.image(0);
+            for (int i = 0; i < 102; i++) {
+                x.feed(0x776f7274, 0x68203920, 0x20202020, 0x20202020, 0x20202020);
+                x.law();
+                x.cloud(1, 1, 0, 3, 3);
+                x.force(0);
+                x.back(0);
+            }
+            is(x.asks(0, 0, 3), 1);
+        });
         test("NOTHING is -1000", x -> is(ShadowHerds.NOTHING, -1000));
     }
 
@@ -1109,6 +1120,19 @@ public final class BoundaryTest {
         lawReads("brackets, which are no parts", "worth [" + repeat("[1]", "+", 50) + "]");
         lawFaults("the end where a 51st part would stand", "worth " + fifty + "+@");
         lawFaults("a number beyond 1000 as the 50th part", "worth " + repeat("1", "+", 49) + "+@1001");
+        test("law: 50 parts in each of many texts", x -> {
+            x.image(0);
+            for (int i = 0; i < 20; i++) {
+                is(law(x, "worth " + i + "+" + repeat("1", "+", 49)), 0);
+                x.force(0);
+                is(x.asks(0, 0, 3), 49 + i);
+                x.back(0);
+            }
+        });
+        test("law: 51 parts leave the next text its 50", x -> {
+            is(law(x, "worth " + fifty + "+1"), -6);
+            is(law(x, "worth " + fifty), 0);
+        });
     }
 
     private static void lawBrackets() {
@@ -1521,6 +1545,16 @@ public final class BoundaryTest {
         test("drives: a text that can't be read, without room", x -> {
             all.run(x);
             is(drives(x, "flag 3 to 0 at"), -6);
+        });
+        test("drives: no room in a clause ahead of one that can't be", x -> {
+            all.run(x);
+            is(drives(x, "flag 3 to 0 at 0; flag 9 to 0 at 0"), -5);
+            is(x.stopped(), 0);
+        });
+        test("drives: one that can't be in a clause ahead of no room", x -> {
+            all.run(x);
+            is(drives(x, "flag 9 to 0 at 0; flag 3 to 0 at 0"), -3);
+            is(x.stopped(), 0);
         });
         test("drives: what is not run needs no room", x -> {
             all.run(x);
