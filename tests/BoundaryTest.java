@@ -351,6 +351,22 @@ public final class BoundaryTest {
         });
     }
 
+    /** A cloud that the wind brings from the sky's last corner or its first: over field 63 or 0 in hour 8. */
+    private static void fromCorner(String what, Body last, Body first) {
+        test(what + ": from the last corner", x -> {
+            x.cloud(1, 1, 0, 15, 15);
+            x.wind(0, -1, -1);
+            x.terms(1, 0);
+            last.run(x);
+        });
+        test(what + ": from the first corner", x -> {
+            x.cloud(1, 1, 0, -8, -8);
+            x.wind(0, 1, 1);
+            x.terms(1, 0);
+            first.run(x);
+        });
+    }
+
     // ---- promises 1 to 15 ----
 
     private static void newObject() {
@@ -1245,6 +1261,8 @@ public final class BoundaryTest {
         so("not of the next alone", "not 1=2 and 1=2", false);
         so("not of a bracket", "not (1=2 and 1=2)", true);
         so("not twice", "not not 1=1", true);
+        so("not of a bracket with not", "not (not 1=1)", true);
+        so("not of a bracket with not that is so", "not (not 1=2)", false);
         so("or of none that is so", "1=2 or 1=2 or 1=2", false);
         so("or of the last that is so", "1=2 or 1=2 or 1=1", true);
         so("and of all that are so", "1=1 and 1=1 and 1=1", true);
@@ -1785,6 +1803,12 @@ public final class BoundaryTest {
                 same(row(x.at(0, 1, 0), x.at(0, 1, 1)), row(e[0], e[1]));
                 is(x.at(0, 2, 0), NOTHING);
             });
+            test("at: two steps at once beyond the edge " + edge, x -> {
+                x.cloud(1, 1, 0, e[0], e[1]);
+                x.wind(0, e[3], e[4]);
+                x.flag(0, 0, e[2]);
+                same(row(x.at(0, 1, 0), x.at(0, 1, 1), x.at(0, 11, 0)), "-1000 -1000 -1000");
+            });
         }
         test("at: in hour 11 by flags of hours 0 to 10", x -> {
             x.cloud(1, 1, 0, 3, 3);
@@ -1851,6 +1875,11 @@ public final class BoundaryTest {
         });
         test("at: of no cloud there is nothing", x -> is(x.at(0, 0, 0), NOTHING));
         undisturbed("at", (x, n) -> 100 * x.at(2, 3, 0) + x.at(0, 3, 1));
+        fromCorner("at", x -> {
+            same(row(x.at(0, 0, 0), x.at(0, 8, 0), x.at(0, 11, 1)), "15 7 4");
+        }, x -> {
+            same(row(x.at(0, 0, 0), x.at(0, 8, 0), x.at(0, 11, 1)), "-8 0 3");
+        });
     }
 
     private static void dark() {
@@ -2211,6 +2240,11 @@ public final class BoundaryTest {
             same(row(x.drive(0, 38, 3, 3, NONE), x.drive(0, 38, 3, 3, 0), x.drive(0, 38, 3, 3, 1), x.drive(0, 38, 3, 3, 2)), "1 4 2 4");
         });
         undisturbed("drive", (x, n) -> 10 * x.drive(0, 38, 6, 7, NONE) + x.drive(0, 38, 6, 7, 2));
+        fromCorner("drive", x -> {
+            same(row(x.drive(0, 63, 8, 8, NONE), x.drive(0, 63, 8, 8, 0), x.drive(0, 62, 8, 8, NONE), x.drive(0, 62, 8, 8, 0)), "0 4 1 3");
+        }, x -> {
+            same(row(x.drive(0, 0, 8, 8, NONE), x.drive(0, 0, 8, 8, 7), x.drive(0, 1, 8, 8, NONE), x.drive(0, 1, 8, 8, 0)), "0 4 1 1");
+        });
     }
 
     private static void pasture() {
@@ -2302,6 +2336,11 @@ public final class BoundaryTest {
             same(row(x.pasture(0, 1, NONE), x.pasture(0, 1, 0), x.pasture(0, 1, 1), x.pasture(0, 1, 2)), "9 4 2 4");
         });
         undisturbed("pasture", (x, n) -> 10 * x.pasture(0, 4, NONE) + x.pasture(0, 4, 3));
+        fromCorner("pasture", x -> {
+            same(row(x.pasture(0, 0, NONE), x.pasture(0, 0, 0), x.pasture(0, 2, NONE), x.pasture(0, 11, NONE)), "4 4 5 6");
+        }, x -> {
+            same(row(x.pasture(0, 0, NONE), x.pasture(0, 0, 0), x.pasture(0, 2, NONE), x.pasture(0, 11, NONE)), "4 4 5 6");
+        });
     }
 
     private static void serve() {
@@ -2315,6 +2354,13 @@ public final class BoundaryTest {
             x.cloud(1, 1, 0, 3, 3);
             x.contract(0, 0, 11, 0, 50);
             x.contract(27, 0, 11, 1, 5);
+            same(row(x.serve(0, 0), x.serve(0, 1)), "5 2");
+        });
+        test("serve: a contract for sun on a field in its shade is none of it", x -> {
+            x.cloud(1, 1, 0, 3, 3);
+            x.contract(27, 0, 11, 0, 50);
+            x.contract(27, 0, 11, 1, 5);
+            x.contract(27, 0, 11, 0, 50);
             same(row(x.serve(0, 0), x.serve(0, 1)), "5 2");
         });
         test("serve: none can be kept", x -> {
@@ -2450,6 +2496,19 @@ public final class BoundaryTest {
             same(row(x.serve(0, 0), x.serve(0, 1)), "9 1");
         });
         undisturbed("serve", (x, n) -> 1000 * x.serve(1, 0) + x.serve(1, 1));
+        fromCorner("serve", x -> {
+            x.contract(63, 8, 8, 1, 9);
+            x.contract(36, 11, 11, 1, 9);
+            same(row(x.serve(0, 0), x.serve(0, 1)), "18 3");
+            rule(x, "bars");
+            same(row(x.serve(0, 0), x.serve(0, 1)), "18 3");
+        }, x -> {
+            x.contract(0, 8, 8, 1, 9);
+            x.contract(27, 11, 11, 1, 9);
+            same(row(x.serve(0, 0), x.serve(0, 1)), "18 3");
+            rule(x, "bars");
+            same(row(x.serve(0, 0), x.serve(0, 1)), "18 3");
+        });
     }
 
     private static void cross() {
@@ -2605,6 +2664,13 @@ public final class BoundaryTest {
             is(x.part(1, 0), 1);
         });
         undisturbed("part", (x, n) -> 100 * x.part(0, 1) + x.part(1, 2));
+        fromCorner("part", x -> {
+            x.cloud(1, 1, 1, 7, 7);
+            is(x.part(0, 1), 1);
+        }, x -> {
+            x.cloud(1, 1, 1, 0, 0);
+            is(x.part(0, 1), 1);
+        });
     }
 
     private static void likely() {
@@ -2696,6 +2762,11 @@ public final class BoundaryTest {
             same(row(x.likely(0, 29, 2), x.likely(0, 30, 1), x.likely(0, 29, 0)), "640000000000 0 0");
         });
         undisturbed("likely", (x, n) -> x.likely(0, 37, 4));
+        fromCorner("likely", x -> {
+            same(row(x.likely(0, 63, 8), x.likely(0, 36, 11)), row(CERTAIN, CERTAIN));
+        }, x -> {
+            same(row(x.likely(0, 0, 8), x.likely(0, 27, 11)), row(CERTAIN, CERTAIN));
+        });
     }
 
     private static void surest() {
@@ -2752,6 +2823,11 @@ public final class BoundaryTest {
             same(row(x.surest(0, 28, 1), x.surest(0, 28, 2)), row(0, CERTAIN));
         });
         undisturbed("surest", (x, n) -> x.surest(0, 38, 5));
+        fromCorner("surest", x -> {
+            same(row(x.surest(0, 63, 8), x.surest(0, 36, 11)), row(CERTAIN, CERTAIN));
+        }, x -> {
+            same(row(x.surest(0, 0, 8), x.surest(0, 27, 11)), row(CERTAIN, CERTAIN));
+        });
     }
 
     private static void steer() {
@@ -2796,6 +2872,11 @@ public final class BoundaryTest {
             is(x.steer(0, 63, 1, 0, -8, -8), 0);
         });
         undisturbed("steer", (x, n) -> x.steer(0, 38, 5, 1, 3, 4));
+        fromCorner("steer", x -> {
+            is(x.steer(0, 63, 8, 0, 15, 15), 0);
+        }, x -> {
+            is(x.steer(0, 0, 8, 0, -8, -8), 0);
+        });
     }
 
     // ---- promises 36 to 43 ----
@@ -2918,6 +2999,16 @@ public final class BoundaryTest {
             x.sight(1, 0, 1);
             same(row(x.stray(1, 1, 0, 0), x.stray(1, 1, 1, 0)), "200 199");
         });
+        for (int layer = 0; layer < 3; layer++) {
+            int k = layer;
+            test("stray: by both parts of the wind of layer " + layer, x -> {
+                x.wind(k, 1, -1);
+                x.sight(2, 0, 1);
+                for (int other = 0; other < 3; other++) {
+                    is(x.stray(1, 1, other, 0), other == k ? 24 * 10 + 6 : 200);
+                }
+            });
+        }
         test("stray: bars and flags do not matter", x -> {
             rule(x, "bars");
             x.cloud(1, 1, 0, 0, 0);
@@ -3011,6 +3102,13 @@ public final class BoundaryTest {
             same(row(x.rustled(NONE), x.rustled(0), x.rustled(2)), "3 2 42");
         });
         undisturbed("rustled", (x, n) -> 1000 * x.rustled(NONE) + x.rustled(4));
+        fromCorner("rustled", x -> {
+            x.sight(8, 63, 0);
+            same(row(x.rustled(NONE), x.rustled(31)), "32 143");
+        }, x -> {
+            x.sight(8, 0, 0);
+            same(row(x.rustled(NONE), x.rustled(31)), "32 143");
+        });
     }
 
     private static void men() {
@@ -3131,6 +3229,17 @@ public final class BoundaryTest {
             x.flag(2, 2, 0);
             is(x.men(), 2);
         });
+        test("men: the later flag may be told first", x -> {
+            x.cloud(1, 1, 0, 0, 0);
+            x.cloud(1, 1, 0, 2, 0);
+            x.cloud(1, 1, 0, 4, 0);
+            rule(x, "bars");
+            x.flag(2, 1, 0);
+            x.flag(2, 2, 0);
+            x.flag(0, 1, 0);
+            x.flag(0, 0, 0);
+            is(x.men(), 2);
+        });
         test("men: three give way, one behind another one", x -> {
             for (int i = 0; i < 4; i++) {
                 x.cloud(1, 1, 0, 2 * i, 0);
@@ -3213,9 +3322,16 @@ public final class BoundaryTest {
         });
         undisturbed("duel", (x, n) -> 10 * x.duel(1, 28, 2, 0) + x.duel(1, 28, 2, 1));
         undisturbed("duel that is long", (x, n) -> 10 * x.duel(1, 36, 8, 0) + x.duel(1, 36, 8, 1));
+        fromCorner("duel", x -> {
+            rule(x, "bars");
+            same(row(x.duel(0, 63, 8, 0), x.duel(0, 63, 8, 1), x.duel(0, 62, 8, 0)), "1 0 0");
+        }, x -> {
+            rule(x, "bars");
+            same(row(x.duel(0, 0, 8, 0), x.duel(0, 0, 8, 1), x.duel(0, 1, 8, 0)), "1 0 0");
+        });
     }
 
-    /** Fields 28 and 35 are scorched, if they are in the sun in that hour; others can't be. */
+    /** Those fields are scorched, if they are in the sun in that hour; others can't be. */
     private static void trap(ShadowHerds x, int hour, int... fields) {
         rule(x, "heats 0; cools 0; heats 9 if hour=" + hour);
         for (int field : fields) {
@@ -3275,6 +3391,14 @@ public final class BoundaryTest {
             trap(x, 1, 28, 35);
             is(x.summer(0, 2), 2);
             same(row(x.drawn(28), x.drawn(35)), "1 1");
+        });
+        test("summer: the 12th draw is the next day's first", x -> {
+            x.cloud(1, 1, 0, 3, 3);
+            x.wind(0, 1, 0);
+            x.terms(1, 7);
+            trap(x, 1, 28, 35);
+            is(x.summer(0, 2), 2);
+            same(row(x.drawn(28), x.drawn(35)), "2 0");
         });
         test("summer: the first cloud draws first, one without wind, too", x -> {
             x.cloud(1, 1, 0, 0, 0);
@@ -3339,6 +3463,15 @@ public final class BoundaryTest {
             is(x.drawn(0), 7);
         });
         undisturbed("summer", (x, n) -> x.summer(9, 30));
+        fromCorner("summer", x -> {
+            trap(x, 8, 62, 63);
+            x.summer(7, 3);
+            same(row(x.drawn(62), x.drawn(63)), "3 0");
+        }, x -> {
+            trap(x, 8, 1, 0);
+            x.summer(7, 3);
+            same(row(x.drawn(1), x.drawn(0)), "3 0");
+        });
     }
 
     private static void drawn() {
@@ -3358,6 +3491,12 @@ public final class BoundaryTest {
             x.summer(0, 30);
             x.summer(0, 1);
             is(x.drawn(63), 1);
+        });
+        test("drawn: of the latest alone, field 0", x -> {
+            x.put(0, 1, 59);
+            x.summer(0, 30);
+            x.summer(0, 1);
+            is(x.drawn(0), 1);
         });
         test("drawn: it is kept, whatever comes then", x -> {
             x.put(63, 1, 59);
