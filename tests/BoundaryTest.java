@@ -2487,6 +2487,17 @@ public final class BoundaryTest {
             x.contract(0, 11, 11, 1, 9);
             same(row(x.serve(0, 0), x.serve(1, 0)), "9 0");
         });
+        test("serve: from each edge of the sky, against no wind", x -> {
+            x.cloud(1, 1, 0, 3, 15);
+            x.cloud(1, 1, 0, 15, 3);
+            x.cloud(1, 1, 0, 3, -8);
+            x.cloud(1, 1, 0, -8, 3);
+            x.contract(59, 8, 8, 1, 1);
+            x.contract(31, 8, 8, 1, 2);
+            x.contract(3, 8, 8, 1, 4);
+            x.contract(24, 8, 8, 1, 8);
+            same(row(x.serve(0, 0), x.serve(1, 0), x.serve(2, 0), x.serve(3, 0)), "1 2 4 8");
+        });
         test("serve: a cloud that is gone keeps none", x -> {
             x.cloud(3, 3, 0, 0, 0);
             x.wind(0, -1, -1);
