@@ -7,7 +7,7 @@ import java.util.List;
  * The document read from its first line: each sentence of the Terms and of the promises in its order and in its own
  * words, with calls on a new object that would answer otherwise if it did not hold. The answers are worked out by hand
  * from the text, but for the summers' draws, which a script of their own told.
- * {@code java DocumentTest DOC.md} tells instead what of that document no test here quotes.
+ * {@code java DocumentTest DOC.md} tells also what of that document no test here quotes.
  */
 public final class DocumentTest {
     private static final int NONE = ShadowHerds.NONE;
